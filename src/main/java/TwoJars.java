@@ -86,7 +86,7 @@ public final class TwoJars {
         if (!asksSpan(span, j) || !within(part, 0, 1)) {
             return BAD;
         }
-        prepareMeans();
+        means.weigh(text, tower);
         boolean even = means.weightOf(asked) == 0;
         evenPlans.prepare(1, 0);
         int cost = even ? evenPlans.cost(asked.jars, asked.heights()) : means.cost(asked);
@@ -102,7 +102,11 @@ public final class TwoJars {
         if (!asksSpan(span, j)) {
             return BAD;
         }
-        return asked.isSure() || asked.jars == 0 ? NOT : firstByMean(asked);
+        if (asked.isSure() || asked.jars == 0) {
+            return NOT;
+        }
+        means.weigh(text, tower);
+        return firstByMean(asked);
     }
 
     public int trodden(int span, int aj, int what) {
@@ -218,7 +222,7 @@ public final class TwoJars {
         if (rn < 0 || rule > 1 || !within(n, 1, 60) || !within(what, 0, 1)) {
             return BAD;
         }
-        prepareMeans();
+        means.weigh(text, tower);
         int z = seed;
         int sum = 0;
         for (int i = 0; i < n; i++) {
@@ -234,7 +238,7 @@ public final class TwoJars {
     // ---- in deed
 
     public int hide(int seed) {
-        prepareMeans();
+        means.weigh(text, tower);
         hidden.begin(heightFor(nextSeed(seed)), tower.steps(), tower.jars());
         return tower.steps();
     }
@@ -455,17 +459,8 @@ public final class TwoJars {
         return true;
     }
 
-    private void prepareMeans() {
-        means.weigh(text, tower.steps(), tower.jars());
-    }
-
-    private int firstByWorst(Span span) {
-        worstPlans.prepare(1, 0);
-        return span.lo + worstPlans.first(span.jars, span.heights());
-    }
-
+    /** The means must have been weighed. */
     private int firstByMean(Span span) {
-        prepareMeans();
         if (means.weightOf(span) == 0) {
             evenPlans.prepare(1, 0);
             return span.lo + evenPlans.first(span.jars, span.heights());
@@ -475,15 +470,16 @@ public final class TwoJars {
 
     /** Follows a rule for one height; the walk then holds its drops. False: the rule can't be. */
     private boolean walks(int rule, int height) {
+        worstPlans.prepare(1, 0);
+        means.weigh(text, tower);
         Span span = walk.span;
-        span.become(0, tower.steps(), tower.jars());
-        walk.drops = 0;
-        walk.breaks = 0;
+        walk.begin(tower.steps(), tower.jars());
         for (int drop = 0; drop < MOST_STEPS && !span.isSure(); drop++) {
             if (span.jars == 0) {
                 return false;
             }
-            walk.add(rule == 0 ? firstByWorst(span) : firstByMean(span), height);
+            int step = rule == 0 ? span.lo + worstPlans.first(span.jars, span.heights()) : firstByMean(span);
+            walk.add(step, height);
         }
         return span.isSure();
     }
@@ -548,7 +544,7 @@ public final class TwoJars {
         return z * 1103515245 + 12345;
     }
 
-    /** The weights must have been prepared. */
+    /** The means must have been weighed. */
     private int heightFor(int z) {
         int steps = tower.steps();
         int all = means.weightTo(steps);
@@ -1012,7 +1008,7 @@ public final class TwoJars {
         }
 
         private static boolean isThere(int j, int m) {
-            return within(j, 0, MOST_JARS) && within(m, 1, MOST_HEIGHTS);
+            return j >= 0 && j <= MOST_JARS && m >= 1 && m <= MOST_HEIGHTS;
         }
     }
 
@@ -1030,7 +1026,9 @@ public final class TwoJars {
         private int stepsSeen;
         private int jarsSeen;
 
-        void weigh(Law law, int steps, int jars) {
+        void weigh(Law law, Tower tower) {
+            int steps = tower.steps();
+            int jars = tower.jars();
             if (law.version == lawSeen && steps == stepsSeen && jars == jarsSeen) {
                 return;
             }
@@ -1232,6 +1230,12 @@ public final class TwoJars {
         private final Span span = new Span();
         private int drops;
         private int breaks;
+
+        void begin(int highest, int jars) {
+            span.become(0, highest, jars);
+            drops = 0;
+            breaks = 0;
+        }
 
         void add(int step, int height) {
             if (drops >= MOST_STEPS) {
