@@ -263,6 +263,23 @@ public final class PlansTest {
         }
     }
 
+    /** Each call as the first one that looks at the weights, and behind a change of the jars alone. */
+    private static void meansAtFirst(Check check) {
+        TwoJars x = new TwoJars();
+        Check.law(x, "h>15");
+        check.due("meanFirst at first", x.meanFirst(20, 2), 16);
+        TwoJars y = new TwoJars();
+        Check.law(y, "h>15");
+        check.due("mean at first", y.mean(20, 2, 0) * 100L + y.mean(20, 2, 1), 1705);
+        TwoJars z = new TwoJars();
+        Check.law(z, "j=0?h=9;h<3");
+        for (int jars = 6; jars >= 0; jars--) {
+            z.mend(1, jars);
+            meanOf(check, z, 0, 20, 2);
+            meanOf(check, z, 5, 15, 3);
+        }
+    }
+
     private static long troddenTo(int lo, int hi, int a, int j) {
         if (lo == hi) {
             return 0;
@@ -437,7 +454,12 @@ public final class PlansTest {
             check.due("two(505, " + v + ", 0)", x.two(505, v, 0), bad);
             check.due("two(505, 2, " + v + ")", x.two(505, 2, v), bad);
         }
-        int[] mjs = {0, 6, 7, 17, 619 - 2, 620};
+        check.due("worst(212, 2)", x.worst(212, 2), bad);
+        check.due("mean(20, 2, 2)", x.mean(20, 2, 2), bad);
+        check.due("trodden(20, 2, 2)", x.trodden(20, 2, 2), bad);
+        check.due("price(212, 2)", x.price(212, 2), bad);
+        check.due("two(505, 2, 2)", x.two(505, 2, 2), bad);
+        int[] mjs = {0, 6, 7, 17, 617, 620};
         for (int mj : mjs) {
             check.due("worst(" + mj + ", 0)", x.worst(mj, 0), bad);
             check.due("price(" + mj + ", 0)", x.price(mj, 0), bad);
@@ -467,6 +489,7 @@ public final class PlansTest {
         fewHeights(check);
         worstByReach(check);
         meansThatChange(check);
+        meansAtFirst(check);
         manyTrodden(check);
         manyPrices(check);
         towers(check);

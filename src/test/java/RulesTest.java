@@ -120,13 +120,44 @@ public final class RulesTest {
         check.due("shards, far", y.shards(0, Integer.MAX_VALUE), 0);
     }
 
+    /** Each call as the first one that looks at the weights. */
+    private static void atFirst(Check check) {
+        TwoJars[] all = new TwoJars[8];
+        for (int i = 0; i < all.length; i++) {
+            all[i] = new TwoJars();
+            Check.law(all[i], "h>18");
+        }
+        check.due("meanFirst", all[0].meanFirst(20, 2), 19);
+        check.due("ruled", all[1].ruled(1, 20, 0), 2);
+        check.due("step", all[2].step(1, 20, 0), 19);
+        check.due("shards", all[3].shards(1, 20), 1L << 20);
+        check.due("drawn by worst", all[4].drawn(5, 60, 0), all[7].ruled(0, 19, 0) * zeros(5) + all[7].ruled(0, 20, 0) * (60 - zeros(5)));
+        check.due("drawn by mean", all[5].drawn(5, 160, 0), 120);
+        check.due("hide", all[6].hide(5), 20);
+        check.due("a drop from 18", all[6].drop(18), 0);
+    }
+
+    /** How many of 60 drawn bits are 0. */
+    private static int zeros(int seed) {
+        int z = seed;
+        int count = 0;
+        for (int i = 0; i < 60; i++) {
+            z = z * 1103515245 + 12345;
+            count += (z >>> 8) % 2 == 0 ? 1 : 0;
+        }
+        return count;
+    }
+
     // ---- told drops
 
     private static long[] chanceRow(Random random, int steps) {
         long[] row = new long[random.nextInt(15)];
         int height = random.nextInt(steps + 1);
-        for (int i = 0; i + 1 < row.length; i += 2) {
+        for (int i = 0; i < row.length; i += 2) {
             row[i] = 1 + random.nextInt(steps);
+            if (i + 1 == row.length) {
+                break;
+            }
             row[i + 1] = height < row[i] ? 1 : 0;
             if (random.nextInt(12) == 0) {
                 row[i + 1] = random.nextInt(4) - 1;
@@ -270,6 +301,7 @@ public final class RulesTest {
     public static void main(String[] args) {
         Check check = new Check("RulesTest");
         towers(check);
+        atFirst(check);
         toldDrops(check);
         wrongShelves(check);
         wrong(check);

@@ -132,6 +132,12 @@ public final class TowerTest {
         check.due("weight by the law as it was", x.weight(0), 5);
         check.due("another law", Check.law(x, "4"), 1);
         check.due("weight by another law", x.weight(0), 4);
+        for (int i = 0; i < 100; i++) {
+            check.due("law " + i, Check.law(x, "(((h-" + i + ")))+" + (i + i % 7) + "-h"), 1);
+            check.due("weight by law " + i, x.weight(11), i % 7);
+            check.due("law " + i + " with a fault", Check.law(x, "1+2+3+4+5+6+7+8+9*"), -118);
+            check.due("weight by law " + i + " still", x.weight(3), i % 7);
+        }
     }
 
     // ---- texts made by chance, against an account of brackets and a tree of what they mean
