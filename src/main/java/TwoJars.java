@@ -1104,7 +1104,12 @@ public final class TwoJars {
             int best = NEVER;
             int at = placeOf(lo, hi);
             for (int step = lo + 1; step <= hi; step++) {
-                int cost = fewer[placeOf(lo, step - 1)] + same[placeOf(step, hi)];
+                int broken = fewer[placeOf(lo, step - 1)];
+                // More heights below a step never cost less, so no higher step can be better.
+                if (broken >= best) {
+                    break;
+                }
+                int cost = broken + same[placeOf(step, hi)];
                 if (cost < best) {
                     best = cost;
                     first[at] = step;
