@@ -621,17 +621,24 @@ public final class TwoJars {
             if (!fits(what, v)) {
                 return BAD;
             }
+            int was = values[what];
+            // What stays as it was is no change: nothing is noted, and what could be done again still can.
+            if (v != was) {
+                note(what, was, v);
+                values[what] = v;
+            }
+            return was;
+        }
+
+        private void note(int what, int was, int v) {
             if (done == KEPT) {
                 forgetOldest();
             }
-            int was = values[what];
             whats[done] = what;
             before[done] = was;
             after[done] = v;
             done++;
             known = done;
-            values[what] = v;
-            return was;
         }
 
         private void forgetOldest() {

@@ -150,13 +150,16 @@ public final class DeedTest {
             int way = random.nextInt(5);
             if (way < 2) {
                 int what = random.nextInt(4);
-                int v = 1 + random.nextInt(what == 0 ? 60 : 6);
-                undone.clear();
-                done.add(new int[] {what, x.of(what), v});
+                int was = x.of(what);
+                int v = random.nextInt(4) == 0 ? was : 1 + random.nextInt(what == 0 ? 60 : 6);
+                if (v != was) {
+                    undone.clear();
+                    done.add(new int[] {what, was, v});
+                }
                 if (done.size() > 40) {
                     done.remove(0);
                 }
-                check.due("mend(" + what + ", " + v + ")", x.mend(what, v), done.get(done.size() - 1)[1]);
+                check.due("mend(" + what + ", " + v + ")", x.mend(what, v), was);
                 check.due("of(" + what + ")", x.of(what), v);
             } else if (way < 4) {
                 turn(done, undone, 1, "undo", random.nextInt(3));
@@ -222,27 +225,76 @@ public final class DeedTest {
     private static void manyChanges(Check check) {
         TwoJars x = new TwoJars();
         for (int i = 1; i <= 45; i++) {
-            x.mend(2, i);
+            // The price of a drop is 1 at first: each mend is to another one.
+            x.mend(2, i + 1);
             check.due("count(1) behind " + i, x.count(1), Math.min(40, i));
         }
         for (int i = 39; i >= 0; i--) {
             check.due("undo", x.undo(), i);
-            check.due("of(2)", x.of(2), 5 + i);
+            check.due("of(2)", x.of(2), 6 + i);
         }
         check.due("undo of none", x.undo(), TwoJars.STATE);
-        check.due("of(2)", x.of(2), 5);
+        check.due("of(2)", x.of(2), 6);
         for (int i = 39; i >= 0; i--) {
             check.due("redo", x.redo(), i);
         }
         check.due("redo of none", x.redo(), TwoJars.STATE);
-        check.due("of(2)", x.of(2), 45);
+        check.due("of(2)", x.of(2), 46);
         x.undo();
         x.undo();
         check.due("a wrong mend", x.mend(2, 100), TwoJars.BAD);
         check.due("redo behind a wrong mend", x.redo(), 1);
-        check.due("a mend to the same", x.mend(2, 44), 44);
+        check.due("a mend to another", x.mend(2, 44), 45);
         check.due("redo behind another change", x.redo(), TwoJars.STATE);
         check.due("count(1)", x.count(1), 40);
+    }
+
+    /** A mend to what is there already is no change: what can be undone and done again stays as it was. */
+    private static void mendsToTheSame(Check check) {
+        int[] first = {20, 2, 1, 10};
+        for (int what = 0; what < 4; what++) {
+            TwoJars x = new TwoJars();
+            check.due("a first mend to the same", x.mend(what, first[what]), first[what]);
+            check.due("count(1) behind it", x.count(1), 0);
+            check.due("undo behind it", x.undo(), TwoJars.STATE);
+            check.due("redo behind it", x.redo(), TwoJars.STATE);
+            x.mend(what, 5);
+            x.mend(what, 6);
+            check.due("a mend to the same", x.mend(what, 6), 6);
+            check.due("count(1)", x.count(1), 2);
+            check.due("undo", x.undo(), 1);
+            check.due("of", x.of(what), 5);
+            check.due("a mend to the same behind undo", x.mend(what, 5), 5);
+            check.due("a mend of another to the same", x.mend((what + 1) % 4, first[(what + 1) % 4]),
+                first[(what + 1) % 4]);
+            check.due("count(1) behind both", x.count(1), 1);
+            check.due("redo behind both", x.redo(), 0);
+            check.due("of behind redo", x.of(what), 6);
+            x.undo();
+            check.due("a mend to what was undone", x.mend(what, 6), 5);
+            check.due("redo behind a change", x.redo(), TwoJars.STATE);
+            check.due("count(1) behind a change", x.count(1), 2);
+        }
+        mendToTheSameWhenFull(check);
+    }
+
+    /** With 40 changes kept a mend to the same drives none of them out. */
+    private static void mendToTheSameWhenFull(Check check) {
+        TwoJars x = new TwoJars();
+        for (int i = 2; i <= 41; i++) {
+            x.mend(2, i);
+        }
+        check.due("a mend to the same behind 40", x.mend(2, 41), 41);
+        check.due("count(1) behind 40", x.count(1), 40);
+        for (int i = 39; i >= 0; i--) {
+            check.due("undo of 40", x.undo(), i);
+        }
+        check.due("of(2) behind all", x.of(2), 1);
+        check.due("a mend to the same with 40 undone", x.mend(2, 1), 1);
+        for (int i = 39; i >= 0; i--) {
+            check.due("redo of 40", x.redo(), i);
+        }
+        check.due("of(2) done again", x.of(2), 41);
     }
 
     private static void wrong(Check check) {
@@ -301,6 +353,7 @@ public final class DeedTest {
         Check check = new Check("DeedTest");
         byChance(check);
         manyChanges(check);
+        mendsToTheSame(check);
         wrong(check);
         imageOfNothing(check);
         check.end();
