@@ -21,14 +21,27 @@ public final class AnyCallsTest {
         return way == 8 ? EDGES[random.nextInt(EDGES.length)] : random.nextInt();
     }
 
-    private static long call(TwoJars x, int which, Random random) {
-        int a = any(random);
-        int b = any(random);
-        int c = any(random);
+    private static int letter(Random random) {
+        return random.nextInt(4) == 0 ? any(random) : LETTERS.charAt(random.nextInt(LETTERS.length()));
+    }
+
+    /** Five ints and a long for one call, whichever it is. */
+    private static long[] drawn(int which, Random random) {
+        int first = which == 2 ? letter(random) : any(random);
+        return new long[] {first, any(random), any(random), any(random), any(random),
+            random.nextBoolean() ? any(random) : random.nextLong()};
+    }
+
+    private static long call(TwoJars x, int which, long[] drawn) {
+        int a = (int) drawn[0];
+        int b = (int) drawn[1];
+        int c = (int) drawn[2];
+        int d = (int) drawn[3];
+        int e = (int) drawn[4];
         switch (which) {
             case 0: return x.mend(a, b);
             case 1: return x.of(a);
-            case 2: return x.feed(random.nextInt(4) == 0 ? a : LETTERS.charAt(random.nextInt(LETTERS.length())));
+            case 2: return x.feed(a);
             case 3: return x.law();
             case 4: return x.weight(a);
             case 5: return x.worst(a, b);
@@ -59,9 +72,9 @@ public final class AnyCallsTest {
             case 30: return x.trace(a);
             case 31: return x.keep(a, b);
             case 32: return x.row(a, b, c);
-            case 33: return x.put(a, b, random.nextBoolean() ? c : random.nextLong());
+            case 33: return x.put(a, b, drawn[5]);
             case 34: return x.element(a, b);
-            case 35: return x.shift(a, b, any(random), any(random), c);
+            case 35: return x.shift(a, b, c, d, e);
             case 36: return x.taken(a, b);
             default: return x.count(a);
         }
@@ -87,27 +100,35 @@ public final class AnyCallsTest {
 
     private static boolean isRefused(int which, long answer) {
         // Acts answer any int, and tell no refusal by it; a law with a fault empties the tape.
-        return which != 29 && which != 3 && which != 33 && (answer == -1 || answer == -2 || answer == -3 || answer == -5
+        return which != 29 && which != 3 && (answer == -1 || answer == -2 || answer == -3 || answer == -5
             || answer <= -11 && answer >= -14 || answer == Long.MIN_VALUE);
+    }
+
+    /** Two objects get the same calls; a third one gets only those that are not refused, and answers alike. */
+    private static void run(Check check, int run) {
+        TwoJars x = new TwoJars();
+        TwoJars y = new TwoJars();
+        TwoJars spared = new TwoJars();
+        Random random = new Random(run);
+        for (int i = 0; i < 512; i++) {
+            int which = random.nextInt(38);
+            long[] drawn = drawn(which, random);
+            String told = "call " + which + java.util.Arrays.toString(drawn) + " of run " + run;
+            long before = seen(x);
+            long answer = call(x, which, drawn);
+            check.due(told + " once more", call(y, which, drawn), answer);
+            if (isRefused(which, answer)) {
+                check.due("what is seen behind refused " + told, seen(x), before);
+            } else {
+                check.due(told + " without those refused ahead", call(spared, which, drawn), answer);
+            }
+        }
     }
 
     public static void main(String[] args) {
         Check check = new Check("AnyCallsTest");
-        for (int run = 0; run < 300; run++) {
-            TwoJars x = new TwoJars();
-            TwoJars y = new TwoJars();
-            Random one = new Random(run);
-            Random other = new Random(run);
-            Random choice = new Random(run * 7L);
-            for (int i = 0; i < 512; i++) {
-                int which = choice.nextInt(38);
-                long before = seen(x);
-                long answer = call(x, which, one);
-                if (isRefused(which, answer)) {
-                    check.due("what is seen behind refused call " + which + " of run " + run, seen(x), before);
-                }
-                check.due("call " + which + " of run " + run + " once more", call(y, which, other), answer);
-            }
+        for (int run = 0; run < 400; run++) {
+            run(check, run);
         }
         check.end();
     }

@@ -281,6 +281,44 @@ public final class PlansBoundsTest {
             """);
     }
 
+    private static void meansOfNow() {
+        run("MEAN by the law, STEPS and JARS as they are now", """
+            mean 20 6 0 = 94
+            mean 20 1 0 = 230
+            text h=20 = 1
+            mean 20 6 0 = 1
+            mean 20 6 1 = 1
+            mean 20 1 0 = 20
+            mean 20 2 0 = 1
+            text 1+ = -102
+            mean 20 1 0 = 20
+            text h=n = 1
+            mean 20 2 0 = 1
+            meanFirst 20 2 = 20
+            mend 0 21
+            mean 21 2 0 = 1
+            meanFirst 21 2 = 21
+            meanFirst 20 2 = 5
+            undo
+            meanFirst 20 2 = 20
+            text h=j = 1
+            meanFirst 20 2 = 2
+            meanFirst 20 6 = 2
+            mend 1 6
+            meanFirst 20 6 = 6
+            meanFirst 20 2 = 6
+            mend 1 0
+            mean 20 6 0 = 1
+            meanFirst 20 6 = 1
+            undo
+            undo
+            meanFirst 20 6 = 2
+            text 1 = 1
+            mean 20 6 0 = 94
+            meanFirst 20 6 = 8
+            """);
+    }
+
     private static void trodden() {
         run("TRODDEN: STEPS at most 24, else STATE", """
             mend 0 24
@@ -401,7 +439,21 @@ public final class PlansBoundsTest {
             price 616 0 = 990
             price 616 1 = 6
             """);
-        run("PRICE by the PRICES as they are now", """
+        run("PRICE by the PRICE of a DROP as it is now", """
+            price 212 0 = 24
+            mend 2 0
+            price 212 0 = 10
+            price 212 1 = 1
+            undo
+            price 212 0 = 24
+            redo
+            price 212 0 = 10
+            mend 3 0
+            price 212 0 = 0
+            mend 2 2
+            price 212 0 = 12
+            """);
+        run("PRICE by the PRICE of a JAR as it is now", """
             price 212 0 = 24
             mend 3 0
             price 212 0 = 6
@@ -490,6 +542,7 @@ public final class PlansBoundsTest {
         reach();
         meanSpans();
         means();
+        meansOfNow();
         trodden();
         price();
         two();

@@ -332,6 +332,17 @@ public final class TowerBoundsTest {
             text (-(1)*(((((1)))))) = 1
             text (-(1)*((((((1))))))) = -111
             """);
+        run("At most 6 are open at once behind ? and ; as well", """
+            text 1?((((((1)))))) = 1
+            text 1?(((((((1))))))) = -108
+            text ((((((1))))))?!!!!!!1 = 1
+            text (((((((1)))))))?1 = -106
+            text 1;((((((1)))))) = 1
+            text 1;(((((((1))))))) = -108
+            text 1?2;-------1 = -110
+            text 1?2;------1?------1 = 1
+            text 1?2;------1?-------1 = -118
+            """);
     }
 
     private static void faults() {
@@ -585,6 +596,34 @@ public final class TowerBoundsTest {
             text 2=3 = 1
             weight 0 = 0
             """);
+        run("| & < = > ! give 1, 0 and nothing else", """
+            text 3+(0|0) = 1
+            weight 0 = 3
+            text 3+(0|7) = 1
+            weight 0 = 4
+            text 3+(0&7) = 1
+            weight 0 = 3
+            text 3+(7&0) = 1
+            weight 0 = 3
+            text 3+(2&5) = 1
+            weight 0 = 4
+            text 3+(3<3) = 1
+            weight 0 = 3
+            text 3+(1<3) = 1
+            weight 0 = 4
+            text 3+(2=3) = 1
+            weight 0 = 3
+            text 3+(4=4) = 1
+            weight 0 = 4
+            text 3+(2>3) = 1
+            weight 0 = 3
+            text 3+(9>3) = 1
+            weight 0 = 4
+            text 3+!9 = 1
+            weight 0 = 3
+            text 3+!0 = 1
+            weight 0 = 4
+            """);
         run("which sign binds closer, and from left to right", """
             text 2+3*2 = 1
             weight 0 = 8
@@ -613,7 +652,16 @@ public final class TowerBoundsTest {
             """);
     }
 
+    private static void constants() {
+        CHECK.due("BAD", TwoJars.BAD, -1);
+        CHECK.due("NOT", TwoJars.NOT, -2);
+        CHECK.due("FULL", TwoJars.FULL, -3);
+        CHECK.due("STATE", TwoJars.STATE, -5);
+        CHECK.due("VOID", TwoJars.VOID, -2000000000);
+    }
+
     public static void main(String[] args) {
+        constants();
         newObject();
         numbersOfTheTower();
         tape();
