@@ -464,6 +464,14 @@ public final class DeedBoundsTest {
             """);
     }
 
+    private static void manyCalls() {
+        run("An object is used for at most 512 calls: up to the last of them", """
+            hide 0 = 20
+            times 510 drop 1
+            led 0 = 510
+            """);
+    }
+
     private static void led() {
         run("led: what 0 .. 5; BAD", """
             led -1 = -1
@@ -572,6 +580,20 @@ public final class DeedBoundsTest {
             led 4 = 1
             led 5 = 1
             """);
+        run("what LED tells: right GUESSES and GUESSES each by itself", """
+            hide 0
+            guess 5 = 0
+            hide 0
+            guess 7 = 0
+            hide 0
+            guess 6 = 1
+            image = 0
+            hide 0
+            guess 6 = 1
+            back = 0
+            led 4 = 1
+            led 5 = 3
+            """);
         run("a later IMAGE takes the place of the one there is", """
             hide 0
             drop 1
@@ -607,6 +629,19 @@ public final class DeedBoundsTest {
             lines.append("mend 2 ").append(v).append(" = ").append(v - 1).append('\n');
         }
         return lines.toString();
+    }
+
+    /** Lines that undo and redo so many changes of changes(), asking after each what the number is. */
+    private static String backAndAgain(int from, int kept) {
+        StringBuilder lines = new StringBuilder();
+        for (int i = 1; i <= kept; i++) {
+            lines.append("undo = ").append(kept - i).append("\nof 2 = ").append(from - i).append('\n');
+        }
+        lines.append("undo = -5\n");
+        for (int i = kept - 1; i >= 0; i--) {
+            lines.append("redo = ").append(i).append("\nof 2 = ").append(from - i).append('\n');
+        }
+        return lines.append("redo = -5\ncount 1 = ").append(kept).append('\n').toString();
     }
 
     private static void undo() {
@@ -747,6 +782,8 @@ public final class DeedBoundsTest {
             redo = -5
             of 2 = 42
             """);
+        run("40 at most are kept: each of them as it was, one by one", changes(2, 42) + backAndAgain(42, 40));
+        run("40 at most are kept: 60 changes, the oldest twenty are not", changes(2, 61) + backAndAgain(61, 40));
         run("40 at most are kept: the oldest was of another number", "mend 0 30\nmend 1 6\n" + changes(2, 40) + """
             count 1 = 40
             times 40 undo
@@ -780,6 +817,7 @@ public final class DeedBoundsTest {
         image();
         undo();
         fortyChanges();
+        manyCalls();
         CHECK.end();
     }
 }

@@ -317,6 +317,32 @@ public final class PlansBoundsTest {
             mean 20 6 0 = 94
             meanFirst 20 6 = 8
             """);
+        run("MEAN by STEPS as they are now, where STEPS and JARS come to be alike", """
+            mend 0 5
+            text 9*(h=n-1) = 1
+            meanFirst 5 1 = 1
+            mean 2 1 0 = 5
+            mean 2 1 1 = 3
+            mend 0 2
+            mean 2 1 0 = 2
+            mean 2 1 1 = 1
+            mend 0 5
+            mean 2 1 0 = 5
+            mean 2 1 1 = 3
+            """);
+        run("a SPAN's WEIGHTS from its lo on, those below it are none of them", """
+            text 9-h = 1
+            mean 1 1 0 = 1
+            mean 1 1 1 = 1
+            mean 102 1 0 = 1
+            mean 102 1 1 = 1
+            mean 103 1 0 = 34
+            mean 103 1 1 = 21
+            mean 203 1 0 = 1
+            mean 203 1 1 = 1
+            mean 204 1 0 = 29
+            mean 204 1 1 = 18
+            """);
     }
 
     private static void trodden() {
